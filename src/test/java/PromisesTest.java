@@ -183,6 +183,18 @@ public final class PromisesTest {
     }
     due(5, "undo of the 25th", many.undo(), NONE);
     dueText(5, "24 undone of 30", many, "abcdef");
+    MirrorNodes mixed = of(FULL_TEXT.substring(0, 20));
+    mixed.change(3, 'a');
+    mixed.pop();
+    mixed.change(9, 'f');
+    mixed.pop();
+    for (int i = 0; i < 10; i++) {
+      mixed.put('e');
+    }
+    for (int left = 23; left >= 0; left--) {
+      mixed.undo();
+    }
+    dueText(5, "24 mixed acts undone of 34", mixed, FULL_TEXT.substring(0, 10));
     MirrorNodes full = of(FULL_TEXT);
     full.pop();
     due(5, "undo of a pop from 48", full.undo(), 23);
@@ -398,6 +410,7 @@ public final class PromisesTest {
     due(15, "in(0, 5, 1)", x.in(0, 5, 1), 0);
     due(15, "in(2, 9, 1): aca", x.in(2, 9, 1), 2);
     due(15, "in(8, 9, 1)", x.in(8, 9, 1), 8);
+    due(15, "in(5, 9, 1): dd, not at the span's start", x.in(5, 9, 1), 7);
     due(15, "in(4, 4, 0)", x.in(4, 4, 0), 0);
     due(15, "in(4, 4, 1)", x.in(4, 4, 1), NONE);
     due(15, "in(9, 9, 2)", x.in(9, 9, 2), 0);
@@ -425,6 +438,11 @@ public final class PromisesTest {
     due(16, "mend(1) of abcabc: abcbacba and the like", of("abcabc").mend(1), 3);
     due(16, "mend(0) of abcba", of("abcba").mend(0), 0);
     due(16, "mend(1) of abcba", of("abcba").mend(1), 0);
+    due(16, "acts after questions", x.count(6), 5);
+    for (int left = 4; left >= 1; left--) {
+      x.pop();
+    }
+    due(16, "mend(1) of one letter, asked after a longer text", x.mend(1), 0);
     due(16, "mend(0) of none", new MirrorNodes().mend(0), 0);
     due(16, "mend(1) of none", new MirrorNodes().mend(1), 0);
   }
@@ -535,6 +553,7 @@ public final class PromisesTest {
     due(21, "walks(1, 5, 0)", x.walks(1, 5, 0), 3);
     // X = 16807 * 256: by 64 67228, by 4 leaves 0, so the last one is taken OFF, if there is one
     due(21, "walks(1, 256, 1): taken off", x.walks(1, 256, 1), 1);
+    due(21, "walks(1, 256, 1) of one letter: taken off", of("a").walks(1, 256, 1), 0);
     due(21, "walks(1, 256, 1) of none: put", new MirrorNodes().walks(1, 256, 1), 1);
     due(21, "walks(1, 1, 1) of 48: taken off", of(FULL_TEXT).walks(1, 1, 1), 47);
     due(21, "the greatest n and SEED are not BAD", x.walks(60, 999999, 1) >= 0 ? 1 : 0, 1);
