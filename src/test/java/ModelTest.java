@@ -17,7 +17,7 @@ public final class ModelTest {
 
   public static void main(String[] args) {
     int wrong = 0;
-    int runs = 400;
+    int runs = 1000;
     int[] asked = new int[32];
     for (int run = 0; run < runs; run++) {
       wrong += play(run, asked);
@@ -31,7 +31,8 @@ public final class ModelTest {
         System.out.println("call " + call + " was never drawn");
       }
     }
-    System.out.println(wrong == 0 ? runs + " drawn runs are as the model says" : wrong + " answers are not as the model says");
+    System.out.println(wrong == 0
+        ? runs + " drawn runs are as the model says" : wrong + " answers are not as the model says");
     if (wrong != 0) {
       System.exit(1);
     }
@@ -43,12 +44,15 @@ public final class ModelTest {
     MirrorNodes real = new MirrorNodes();
     Model model = new Model();
     List<String> told = new ArrayList<>();
-    for (int i = 0; i < CALLS; i++) {
+    // What looks at the state is calls, too: an object is used for at most 512 of both together.
+    int used = 0;
+    for (int i = 0; used < CALLS; i++) {
       int call = drawer.call();
       asked[call]++;
       long[] a = drawer.arguments(call, model);
       long due = answerOfModel(model, call, a);
       long got = answerOfClass(real, call, a);
+      used++;
       told.add("call " + call + " " + Arrays.toString(a) + " -> " + got);
       if (got != due) {
         int from = Math.max(0, told.size() - 6);
@@ -56,8 +60,12 @@ public final class ModelTest {
         told.subList(from, told.size()).forEach(System.out::println);
         return 1;
       }
-      if (i % 16 == 15 && !sameState(run, i, real, model)) {
-        return 1;
+      int looks = 8 + model.text.length();
+      if (i % 32 == 31 && used + looks <= CALLS) {
+        used += looks;
+        if (!sameState(run, i, real, model)) {
+          return 1;
+        }
       }
     }
     return 0;
