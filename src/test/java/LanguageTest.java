@@ -46,6 +46,7 @@ public final class LanguageTest {
     words(code);
     imports(code);
     methodLengths(code);
+    makesOnlyInConstructors(code);
     System.out.println(wrong == 0 ? "the face and the language are as due" : wrong + " rules are not kept");
     if (wrong != 0) {
       System.exit(1);
@@ -69,6 +70,7 @@ public final class LanguageTest {
     for (Class<?> c : MirrorNodes.class.getDeclaredClasses()) {
       for (Method m : c.getDeclaredMethods()) {
         check(!names.contains(m.getName()), "rule 1: " + c.getName() + " has a method " + m.getName());
+        check(m.getParameterCount() <= 7, "rule 11: parameters of " + m.getName());
       }
     }
     for (Method m : MirrorNodes.class.getDeclaredMethods()) {
@@ -143,6 +145,27 @@ public final class LanguageTest {
           end++;
         }
         check(end - i < 60, "rule 11: " + lines[i].trim() + " has " + (end - i + 1) + " lines");
+      }
+    }
+  }
+
+  /** Rule 12, and README.md's word: what is made is made as a field's first value or in a constructor. */
+  private static void makesOnlyInConstructors(String code) {
+    Pattern header = Pattern.compile("^( {4}| {8})(?!(?:if|for|while|switch)\\b)[^\\s}].*\\) \\{$");
+    Pattern constructor = Pattern.compile("^ +(public )?[A-Z]\\w*\\(.*\\) \\{$");
+    String end = null;
+    boolean free = true;
+    for (String line : code.split("\n", -1)) {
+      Matcher m = header.matcher(line);
+      if (end == null && m.matches()) {
+        end = m.group(1) + "}";
+        free = constructor.matcher(line).matches();
+      }
+      check(free || !Pattern.compile("\\bnew\\b|\\bclone\\b|copyOf").matcher(line).find(),
+          "rule 12: made in a call: " + line.trim());
+      if (line.equals(end)) {
+        end = null;
+        free = true;
       }
     }
   }
